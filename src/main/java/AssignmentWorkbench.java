@@ -741,7 +741,7 @@ public final class AssignmentWorkbench {
         }
 
         void push(State state) {
-            State record = records[next];
+            State record = record(next);
             if (record != null) {
                 record.copyFrom(state);
             }
@@ -751,11 +751,15 @@ public final class AssignmentWorkbench {
 
         void popInto(State state) {
             next = next > 0 ? next - 1 : MOST_RECORDS - 1;
-            State record = records[next];
+            State record = record(next);
             if (record != null) {
                 state.copyFrom(record);
             }
             count = Math.max(0, count - 1);
+        }
+
+        private State record(int slot) {
+            return slot >= 0 && slot < records.length ? records[slot] : null;
         }
     }
 

@@ -376,9 +376,9 @@ public final class PromiseTest {
 
     private static void promise15Within() {
         AssignmentWorkbench x = small();
-        int[] costs = new int[6];
+        int[] costs = {34, 35, 58, 45, 47, 33};
         for (int number = 0; number < 6; number++) {
-            costs[number] = x.choose(number);
+            same("the cost of " + number, costs[number], x.choose(number));
         }
         for (int limit = 0; limit < 80; limit++) {
             int due = 0;
@@ -399,15 +399,12 @@ public final class PromiseTest {
 
     private static void promise16Optimum() {
         AssignmentWorkbench x = small();
-        // The costs are 34, 39, 46, 42, 46, 33 (see promise 15 for the order).
-        int least = HIGH;
-        for (int number = 0; number < 6; number++) {
-            least = Math.min(least, x.choose(number));
-        }
-        same("optimum", least, x.optimum());
-        x.fix(0, 2);
-        x.fix(1, 0);
-        only("optimum with one assignment", x, x.choose(4), x::optimum);
+        // The costs, in order, are 34, 35, 58, 45, 47, 33.
+        only("optimum", x, 33, x::optimum);
+        x.fix(0, 1);
+        only("optimum with a pair", x, 45, x::optimum);
+        x.fix(2, 2);
+        only("optimum with one assignment", x, 58, x::optimum);
         AssignmentWorkbench y = five();
         only("optimum of five", y, 439, y::optimum);
         y.fix(2, 0);
