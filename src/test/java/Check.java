@@ -23,6 +23,10 @@ final class Check {
         }
     }
 
+    static void same(String what, boolean due, boolean got) {
+        same(what, Boolean.toString(due), Boolean.toString(got));
+    }
+
     static void same(String what, String due, String got) {
         seen++;
         if (!due.equals(got)) {
@@ -37,6 +41,11 @@ final class Check {
             wrong++;
             System.out.println(what + " does not hold");
         }
+    }
+
+    /** How many answers were wrong up to now. */
+    static int wrongUpToNow() {
+        return wrong;
     }
 
     /** The answer of a call as a text, or "throws." and the exception's own name. */

@@ -1,92 +1,5 @@
 /** A test for each promise of the document: ordinary inputs, the edges, and wrong inputs. */
-public final class PromiseTest {
-    private static final int LOW = Integer.MIN_VALUE;
-    private static final int HIGH = Integer.MAX_VALUE;
-    private static final int FLOW = 0;
-    private static final int DISTANCE = 1;
-    private static final int COST = 2;
-
-    // ---- what the tests share
-
-    private static void same(String what, long due, long got) {
-        Check.same(what, due, got);
-    }
-
-    private static void index(String what, AssignmentWorkbench x, Check.Call call) {
-        Check.refuses(what, Check.INDEX, x, call);
-    }
-
-    private static void argument(String what, AssignmentWorkbench x, Check.Call call) {
-        Check.refuses(what, Check.ARGUMENT, x, call);
-    }
-
-    private static void state(String what, AssignmentWorkbench x, Check.Call call) {
-        Check.refuses(what, Check.STATE, x, call);
-    }
-
-    /** The call is undoable: undo() brings back all that could be seen before it. */
-    private static void undoable(String what, AssignmentWorkbench x, Check.Call call) {
-        // So there are at most five records, and the call's record drops none.
-        x.exchange(0, 0);
-        x.undo();
-        String before = Glimpse.of(x);
-        Check.holds(what + " ends", !Check.outcome(call).startsWith("throws"));
-        Check.holds(what + " makes a record", !before.equals(Glimpse.of(x)));
-        Check.holds(what + " is undone", !Check.outcome(x::undo).startsWith("throws"));
-        Check.same("the state after undo of " + what, before, Glimpse.of(x));
-    }
-
-    /** The call changes nothing that can be seen. */
-    private static void only(String what, AssignmentWorkbench x, long due, Check.Call call) {
-        String before = Glimpse.of(x);
-        same(what, due, call.answer());
-        Check.same("the state after " + what, before, Glimpse.of(x));
-    }
-
-    private static void write(AssignmentWorkbench x, String text) {
-        x.clearText();
-        for (int i = 0; i < text.length(); i++) {
-            x.type(text.charAt(i));
-        }
-    }
-
-    /** Sets the first rows and columns of a table. */
-    private static void table(AssignmentWorkbench x, int what, int[][] rows) {
-        for (int a = 0; a < rows.length; a++) {
-            for (int b = 0; b < rows[a].length; b++) {
-                x.set(what, a, b, rows[a][b]);
-            }
-        }
-    }
-
-    /** Three facilities with numbers that are easily reckoned by hand. */
-    private static AssignmentWorkbench small() {
-        AssignmentWorkbench x = new AssignmentWorkbench();
-        table(x, FLOW, new int[][] {{1, 2, 0}, {3, 0, 4}, {0, 5, 0}});
-        table(x, DISTANCE, new int[][] {{1, 1, 2}, {3, 0, 1}, {5, 2, 0}});
-        table(x, COST, new int[][] {{0, 7, 9}, {1, 0, 0}, {0, 2, 8}});
-        return x;
-    }
-
-    /** Five facilities, as in the tests of the document. */
-    private static AssignmentWorkbench five() {
-        AssignmentWorkbench x = new AssignmentWorkbench();
-        x.resize(5);
-        x.fill(FLOW, 7, 9, true);
-        x.fill(DISTANCE, 8, 9, true);
-        x.fill(COST, 9, 20, false);
-        return x;
-    }
-
-    /** Four locations in two pairs; a change of places within or of the pairs is a symmetry. */
-    private static AssignmentWorkbench pairs() {
-        AssignmentWorkbench x = new AssignmentWorkbench();
-        x.resize(4);
-        table(x, DISTANCE, new int[][] {{0, 2, 0, 0}, {2, 0, 0, 0}, {0, 0, 0, 2}, {0, 0, 2, 0}});
-        x.fill(FLOW, 4, 5, false);
-        return x;
-    }
-
+public final class PromiseTest extends Bench {
     // ---- promises 1 to 6: the problem
 
     private static void promise1NewObject() {
@@ -704,18 +617,6 @@ public final class PromiseTest {
     }
 
     // ---- promises 32 to 34: searches
-
-    private static void results(AssignmentWorkbench x, int... due) {
-        for (int what = 0; what < due.length; what++) {
-            same("found(" + what + ")", due[what], x.found(what));
-        }
-    }
-
-    private static void counts(AssignmentWorkbench x, int... due) {
-        for (int pairs = 0; pairs < 7; pairs++) {
-            same("nodes(" + pairs + ")", pairs < due.length ? due[pairs] : 0, x.nodes(pairs));
-        }
-    }
 
     private static void promise32Search() {
         AssignmentWorkbench x = five();
