@@ -310,6 +310,19 @@ final class AssignmentEdges extends Bench {
         z.choose(0);
         same("none with one free facility", 0, z.descend());
         same("none with one facility", 0, sized(1).descend());
+        AssignmentWorkbench v = costs(row(0, 0, 9), row(0, 0, 0), row(0, 0, 0));
+        v.choose(5);
+        v.fix(1, 1);
+        v.fix(2, 0);
+        same("none with one free facility that could have a cheaper place", 0, v.descend());
+        places("the assignment stays", v, 2, 1, 0);
+        // At the location 5 only the facility 4 costs nothing.
+        AssignmentWorkbench w = sized(6);
+        for (int i = 0; i < 6; i++) {
+            w.set(COST, i, 5, i == 4 ? 0 : 1);
+        }
+        same("one of the last pair", 1, w.descend());
+        places("the last pair", w, 0, 1, 2, 3, 5, 4);
     }
 
     // ---- promise 15: within
@@ -477,7 +490,13 @@ final class AssignmentEdges extends Bench {
         only("one is free", y, 1, y::localOptima);
         y.fix(2, 2);
         only("none is free", y, 1, y::localOptima);
-        AssignmentWorkbench z = sized(6);
-        only("all of six facilities", z, 720, z::localOptima);
+        AssignmentWorkbench z = costs(row(1, 0), row(0, 0));
+        z.fix(1, 1);
+        only("the higher one of a pair is fixed", z, 1, z::localOptima);
+        z.free(1);
+        z.fix(0, 0);
+        only("the lower one of a pair is fixed", z, 1, z::localOptima);
+        AssignmentWorkbench w = sized(6);
+        only("all of six facilities", w, 720, w::localOptima);
     }
 }

@@ -98,6 +98,15 @@ final class FixingEdges extends Bench {
         table(y, DISTANCE, new int[][] {{0, 1, 2, 3, 4, 5}});
         // 1 * 5 + 2 * 4 + 3 * 3 + 4 * 2 + 5 * 1
         same("five of each", 35, y.entry(0, 0));
+        y.fix(5, 5);
+        // The pair: 1 * 5; 2 * 4 + 3 * 3 + 4 * 2 + 5 * 1
+        same("without the least flow and the greatest distance", 35, y.entry(0, 0));
+        y.fix(1, 1);
+        // The pairs: 1 * 5 + 5 * 1; 2 * 4 + 3 * 3 + 4 * 2
+        same("without the greatest flow and the least distance", 35, y.entry(0, 0));
+        y.fix(4, 2);
+        // The pairs: 1 * 5 + 5 * 1 + 2 * 2; 3 * 4 + 4 * 3
+        same("without two of each end, as they are paired", 38, y.entry(0, 0));
     }
 
     static void boundIsTheLeastSumAndNothingIfM0() {

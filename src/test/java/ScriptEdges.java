@@ -310,7 +310,8 @@ final class ScriptEdges extends Bench {
         index("choose", x, () -> x.choose(6));
         index("exchange", x, () -> x.exchange(0, 3));
         index("fix", x, () -> x.fix(0, 3));
-        state("fix", x, () -> x.fix(0, 2));
+        state("fix, the location", x, () -> x.fix(0, 2));
+        state("fix, the facility", x, () -> x.fix(1, 0));
         index("free", x, () -> x.free(3));
         state("free", x, () -> x.free(0));
         index("boundWith", x, () -> x.boundWith(0, 3));
@@ -333,6 +334,7 @@ final class ScriptEdges extends Bench {
         x.fix(1, 2);
         index("set, all out of range", x, () -> x.set(3, 3, 3, 100));
         index("set, a and what", x, () -> x.set(3, -1, 0, 1));
+        index("set, b and what", x, () -> x.set(-1, 0, 3, 1));
         index("set, b and value", x, () -> x.set(0, 0, 3, 100));
         argument("set, what and value alone", x, () -> x.set(3, 2, 2, 100));
         index("get, a and what", x, () -> x.get(3, 3, 0));
@@ -436,6 +438,8 @@ final class ScriptEdges extends Bench {
         only("one more than a script", x, 7, x::fault);
         write(x, ";");
         only("the index 0", x, 0, x::fault);
+        x.clearText();
+        only("the empty text after a fault", x, -1, x::fault);
     }
 
     // ---- promise 38: run
@@ -577,6 +581,15 @@ final class ScriptEdges extends Bench {
         x.exchange(0, 0);
         only("with six records", x, sum(1, 3, 5, 4, 0, 0, 19, 19, -1, 1,
                 19, 0, 1, 0, 1, 1, 1, 2, 6), x::checksum);
+        AssignmentWorkbench y = sized(2);
+        table(y, FLOW, new int[][] {{1, 2}, {3, 4}});
+        table(y, DISTANCE, new int[][] {{5, 6}, {7, 8}});
+        table(y, COST, new int[][] {{9, 10}, {11, 12}});
+        y.fix(1, 0);
+        y.choose(1);
+        // 1 * 8 + 2 * 7 + 3 * 6 + 4 * 5 + 10 + 11, and the bound of the only one that agrees
+        only("row by row", y, sum(2, 1, 2, 3, 4, 5, 6, 7, 8, 9, 10, 11, 12, 1, 0, -1, 0,
+                81, 81, 0, 1, -1, -1, -1, -1, -1, -1, -1, 0, 6), y::checksum);
     }
 
     static void checksumWraps() {

@@ -11,6 +11,13 @@ final class SearchEdges extends Bench {
         return costs(row(0, 5, last), row(0, 0, 9), row(0, 0, 9));
     }
 
+    /** As before among six: three more facilities cost 50 but at three more locations. */
+    private static AssignmentWorkbench threeOfSix(int last) {
+        return costs(row(0, 5, last, 50, 50, 50), row(0, 0, 9, 50, 50, 50),
+                row(0, 0, 9, 50, 50, 50), row(50, 50, 50, 0, 0, 0), row(50, 50, 50, 0, 0, 0),
+                row(50, 50, 50, 0, 0, 0));
+    }
+
     /**
      * The facility 0 is taken first, and paired with 1, 0, 3 and 2 in this order. With a cost of
      * 0, 1 or 2 the bounds of the first three are 6, 6, 6, or 7, 7, 7, or 8, 7, 8; the least bound
@@ -21,6 +28,20 @@ final class SearchEdges extends Bench {
         table(x, FLOW, new int[][] {{0, 1, 1, 0}, {1, 0, 0, 0}, {1, 0, 0, 2}, {0, 0, 2, 0}});
         table(x, DISTANCE, new int[][] {{0, 0, 2, 1}, {0, 0, 2, 0}, {2, 2, 0, 3}, {1, 0, 3, 0}});
         table(x, COST, new int[][] {{0, 0, 0, 0}, {0, 0, 3, 0}, {0, 0, 0, 0}, {0, 5, cost, 0}});
+        return x;
+    }
+
+    /**
+     * Equal flows between the first five facilities, and none to the last one. All nodes with
+     * less than four pairs have children here, so that all with four pairs are counted; and as
+     * their bounds are costs, no more than the best one of them has children.
+     */
+    private static AssignmentWorkbench hardest() {
+        AssignmentWorkbench x = sized(6);
+        table(x, FLOW, new int[][] {{0, 1, 1, 1, 1}, {1, 0, 1, 1, 1}, {1, 1, 0, 1, 1},
+            {1, 1, 1, 0, 1}, {1, 1, 1, 1, 0}});
+        table(x, DISTANCE, new int[][] {{0, 0, 2, 0, 2, 1}, {0, 0, 1, 2, 1, 1},
+            {2, 1, 0, 0, 0, 2}, {0, 2, 0, 0, 2, 1}, {2, 1, 0, 2, 0, 0}, {1, 1, 2, 1, 0, 0}});
         return x;
     }
 
@@ -53,8 +74,13 @@ final class SearchEdges extends Bench {
         same("flows do not matter", 2, x.symmetries());
         AssignmentWorkbench y = circle();
         same("a circle can be turned", 3, y.symmetries());
-        y.set(DISTANCE, 2, 0, 2);
-        same("a circle of other steps", 1, y.symmetries());
+        for (int cell = 1; cell < 8; cell++) {
+            int k = cell / 3;
+            int l = cell % 3;
+            int before = y.set(DISTANCE, k, l, 2);
+            same("a circle with another distance " + cell, 1, y.symmetries());
+            y.set(DISTANCE, k, l, before);
+        }
     }
 
     static void symmetryKeepsEachLocationOfTheFixing() {
@@ -213,6 +239,10 @@ final class SearchEdges extends Bench {
         // 0 is alike to none then: it and 1 represent, and the second one is cut off.
         x.set(COST, 2, 0, 1);
         search(x, false, true, 0, 0, 5, 1, 1);
+        // 0 and 2 are alike, and 1 and 3: 0 is paired with 0 and 1, which are not neighbours in order.
+        AssignmentWorkbench z = costs(row(0, 1, 0, 1), row(0, 9, 0, 9), row(0, 9, 0, 9),
+                row(0, 9, 0, 9));
+        search(z, false, true, 10, 6, 12, 3, 2);
         // The first node of the circle has one child, and this one two, as no turn keeps 0.
         AssignmentWorkbench y = circle();
         search(y, false, true, 0, 0, 5, 1, 1);
@@ -289,6 +319,9 @@ final class SearchEdges extends Bench {
         search(new AssignmentWorkbench(), false, false, 0, 0, 7, 3, 1);
         AssignmentWorkbench y = costs(row(2, 0), row(2, 0));
         search(y, false, false, 2, 1, 4, 1, 1);
+        search(five(), false, false, 439, 9, 40, 23, 3, 0, 5);
+        AssignmentWorkbench z = hardest();
+        search(z, false, false, 20, 6, 520, 360, 1, 0, 6);
     }
 
     static void depthFirstVisitsTheFixing() {
@@ -325,6 +358,9 @@ final class SearchEdges extends Bench {
         search(three(8), true, false, 8, 4, 7, 3, 1, 4, 3);
         search(three(9), true, false, 9, 0, 7, 3, 1, 4, 3);
         search(three(10), true, false, 9, 0, 7, 3, 1, 4, 3);
+        search(threeOfSix(8), true, false, 8, 240, 22, 15, 1, 16, 6);
+        search(threeOfSix(9), true, false, 9, 0, 22, 15, 1, 16, 6);
+        search(threeOfSix(10), true, false, 9, 0, 22, 15, 1, 16, 6);
         // All bounds are 0: the least m goes before what came first.
         AssignmentWorkbench x = new AssignmentWorkbench();
         x.search(true, false);
@@ -332,6 +368,16 @@ final class SearchEdges extends Bench {
         AssignmentWorkbench y = sized(6);
         y.search(true, false);
         counts(y, 1, 6, 5, 4, 3, 2, 1);
+        search(five(), true, false, 439, 9, 31, 21, 1, 22, 5);
+        AssignmentWorkbench z = hardest();
+        search(z, true, false, 20, 98, 520, 360, 1, 361, 6);
+        counts(z, 1, 6, 30, 120, 360, 2, 1);
+        // The last facility is taken first, and goes to the first location.
+        AssignmentWorkbench w = sized(6);
+        for (int k = 0; k < 6; k++) {
+            w.set(COST, 5, k, 9 * k);
+        }
+        search(w, true, false, 0, 153, 22, 15, 1, 16, 6);
     }
 
     static void bestFirstCutsOffEqualBounds() {
@@ -445,6 +491,16 @@ final class SearchEdges extends Bench {
         x.search(true, false);
         results(x, 0, 0, 4, 1, 1, 2, 2);
         counts(x, 1, 2, 1);
+        // Nothing of a search is left in the next one, however many there are.
+        AssignmentWorkbench y = sized(6);
+        for (int search = 1; search <= 300; search++) {
+            same("search " + search, 22, y.search(true, false));
+        }
+        search(y, false, false, 0, 0, 22, 15, 1, 0, 6);
+        counts(y, 1, 6, 5, 4, 3, 2, 1);
+        y.resize(1);
+        search(y, true, false, 0, 0, 2, 0, 1, 1, 1);
+        counts(y, 1, 1);
     }
 
     static void searchKeepsTheAssignment() {
