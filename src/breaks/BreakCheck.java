@@ -23,12 +23,14 @@ import javax.tools.ToolProvider;
 
 /**
  * Breaks the class in each way that breaks.txt tells, one after the other, and looks that the
- * tests named there fail then. Its argument is the directory of the compiled tests.
+ * tests named there fail then; and that no test needs what the document leaves free, the answers
+ * of an object after its 512th call. Its argument is the directory of the compiled tests.
  */
 public final class BreakCheck {
     private static final Path SOURCE = Path.of("src/main/java/AssignmentWorkbench.java");
     private static final Path BREAKS = Path.of("src/breaks/breaks.txt");
     private static final Path LIST = Path.of("EDGES.md");
+    private static final Path PROMISES = Path.of("src/test/java/PromiseTest.java");
     private static final String FACE = "AssignmentWorkbench";
     private static final long MOST_MILLIS = 60000;
 
@@ -144,39 +146,74 @@ public final class BreakCheck {
         }
     }
 
-    /** Whether the test fails: an answer is wrong, or it ends by an exception, or never. */
-    private static boolean fails(Map<String, InMemory> classes, Path tests, String test)
+    /** How a test ends; it fails if an answer is wrong, by an exception, or if it never ends. */
+    private enum End { HOLDS, FAILS, IS_MISSING }
+
+    private static End run(Loader loader, String test) {
+        int dot = test.indexOf('.');
+        try {
+            Method method = loader.loadClass(test.substring(0, dot))
+                    .getDeclaredMethod(test.substring(dot + 1));
+            Method wrong = loader.loadClass("Check").getDeclaredMethod("wrongUpToNow");
+            method.setAccessible(true);
+            wrong.setAccessible(true);
+            method.invoke(null);
+            return (int) wrong.invoke(null) > 0 ? End.FAILS : End.HOLDS;
+        } catch (NoSuchMethodException | ClassNotFoundException e) {
+            return End.IS_MISSING;
+        } catch (ReflectiveOperationException e) {
+            return End.FAILS;
+        }
+    }
+
+    private static End endOf(Map<String, InMemory> classes, Path tests, String test)
             throws InterruptedException {
-        boolean[] failed = {true};
-        Thread thread = new Thread(() -> {
-            try {
-                Loader loader = new Loader(classes, tests);
-                int dot = test.indexOf('.');
-                Method method = loader.loadClass(test.substring(0, dot))
-                        .getDeclaredMethod(test.substring(dot + 1));
-                method.setAccessible(true);
-                method.invoke(null);
-                Method wrong = loader.loadClass("Check").getDeclaredMethod("wrongUpToNow");
-                wrong.setAccessible(true);
-                failed[0] = (int) wrong.invoke(null) > 0;
-            } catch (ReflectiveOperationException e) {
-                failed[0] = !(e instanceof NoSuchMethodException
-                        || e instanceof ClassNotFoundException);
-            }
-        });
+        End[] end = {End.FAILS};
+        Thread thread = new Thread(() -> end[0] = run(new Loader(classes, tests), test));
         thread.setDaemon(true);
         thread.start();
         thread.join(MOST_MILLIS);
-        return failed[0];
+        return end[0];
+    }
+
+    private static TreeSet<String> names(Path file, String pattern) throws IOException {
+        TreeSet<String> names = new TreeSet<>();
+        Matcher matcher = Pattern.compile(pattern).matcher(Files.readString(file));
+        while (matcher.find()) {
+            names.add(matcher.group(1));
+        }
+        return names;
     }
 
     private static TreeSet<String> listed() throws IOException {
-        TreeSet<String> tests = new TreeSet<>();
-        Matcher matcher = Pattern.compile("`(\\w+Edges\\.\\w+)`").matcher(Files.readString(LIST));
-        while (matcher.find()) {
-            tests.add(matcher.group(1));
+        return names(LIST, "`(\\w+Edges\\.\\w+)`");
+    }
+
+    /** The source, but that the 513th call of an object ends by an error. */
+    private static String upTo512Calls(String source) {
+        String counted = source.replaceAll("(?m)^ {4}public (int|long) \\w+\\([^{;]*\\{", "$0 countCall();");
+        return counted.replaceFirst("private final State now", "private int callCount; "
+                + "private void countCall() { callCount++; "
+                + "if (callCount > 512) { throw new Error(); } } $0");
+    }
+
+    private static int testsOfMoreCalls(String source, Path tests, PrintStream out)
+            throws IOException, InterruptedException {
+        TreeSet<String> all = listed();
+        for (String promise : names(PROMISES, "static void (promise\\w+)\\(\\)")) {
+            all.add("PromiseTest." + promise);
         }
-        return tests;
+        Map<String, InMemory> classes = compiled(upTo512Calls(source));
+        int bad = 0;
+        for (String test : all) {
+            End end = endOf(classes, tests, test);
+            if (end != End.HOLDS) {
+                bad++;
+                out.println(test + " " + end + " with 512 calls of an object");
+            }
+        }
+        out.println(all.size() + " tests, " + bad + " of them do not hold with 512 calls");
+        return bad;
     }
 
     public static void main(String[] args) throws IOException, InterruptedException {
@@ -184,8 +221,8 @@ public final class BreakCheck {
         String source = Files.readString(SOURCE);
         PrintStream out = System.out;
         System.setOut(new PrintStream(OutputStream.nullOutputStream()));
+        int bad = testsOfMoreCalls(source, tests, out);
         TreeSet<String> without = listed();
-        int bad = 0;
         int count = 0;
         for (Break one : breaks()) {
             String text = broken(source, one);
@@ -199,9 +236,10 @@ public final class BreakCheck {
             for (String test : one.tests()) {
                 count++;
                 without.remove(test);
-                if (!fails(classes, tests, test)) {
+                End end = endOf(classes, tests, test);
+                if (end != End.FAILS) {
                     bad++;
-                    out.println(test + " does not fail: " + one.before() + " => " + one.after());
+                    out.println(test + " " + end + " with " + one.before() + " => " + one.after());
                 }
             }
         }
@@ -209,7 +247,7 @@ public final class BreakCheck {
             bad++;
             out.println(test + " has no break");
         }
-        out.println(count + " breaks, " + bad + " of them wrong");
+        out.println(count + " breaks, " + bad + " faults");
         System.exit(bad == 0 ? 0 : 1);
     }
 }

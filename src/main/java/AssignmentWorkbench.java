@@ -1114,11 +1114,13 @@ public final class AssignmentWorkbench {
             long least = node(0);
             long moved = takeLast();
             int place = 0;
-            int child = lesserChild(place);
-            while (child < size && node(child) < moved) {
+            for (int level = 0; level < MOST_ASSIGNMENTS; level++) {
+                int child = lesserChild(place);
+                if (child >= size || node(child) >= moved) {
+                    break;
+                }
                 setNode(place, node(child));
                 place = child;
-                child = lesserChild(place);
             }
             setNode(place, moved);
             return least;

@@ -39,6 +39,16 @@ final class AssignmentEdges extends Bench {
                 y.exchange(pair / 3, pair % 3);
             }
         }
+        AssignmentWorkbench z = sized(6);
+        for (int what = 0; what < 3; what++) {
+            z.fill(what, 40 + what, 99, false);
+        }
+        for (int pair = 0; pair < 36; pair++) {
+            int before = z.cost();
+            int gain = z.gain(pair / 6, pair % 6);
+            z.exchange(pair / 6, pair % 6);
+            same("the gain of " + pair + " of six", before - z.cost(), gain);
+        }
     }
 
     static void bestExchangeIsTheLowestOfTheGreatest() {

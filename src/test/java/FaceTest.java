@@ -95,8 +95,8 @@ public final class FaceTest {
         for (Class<?> inner : face.getDeclaredClasses()) {
             Check.holds(inner + " is static", Modifier.isStatic(inner.getModifiers()));
             for (Method method : inner.getDeclaredMethods()) {
-                Check.holds(inner + " has no " + method.getName() + " of its own",
-                        !names.contains(method.getName()));
+                Check.holds(inner + " has no private " + method.getName() + " of its own",
+                        !Modifier.isPrivate(method.getModifiers()) || !names.contains(method.getName()));
             }
         }
         for (Method method : face.getDeclaredMethods()) {

@@ -421,6 +421,9 @@ final class ScriptEdges extends Bench {
         same("full", 120, x.clearText());
         same("from the start", 1, x.type(';'));
         same("nothing of the old text", 0, x.fault());
+        write(x, "f0 1 2;");
+        write(x, "f0 1 2");
+        same("not the old text's last character, either", 6, x.fault());
     }
 
     // ---- promise 37: fault
