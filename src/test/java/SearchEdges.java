@@ -45,6 +45,14 @@ final class SearchEdges extends Bench {
         return x;
     }
 
+    /** n facilities with flows and distances from 0 to 9, and no costs. */
+    private static AssignmentWorkbench filled(int n, int start) {
+        AssignmentWorkbench x = sized(n);
+        x.fill(FLOW, start, 9, true);
+        x.fill(DISTANCE, start + 1, 9, true);
+        return x;
+    }
+
     /** Searches, and checks how many nodes were counted, and found(0), found(1) and so on. */
     private static void search(AssignmentWorkbench x, boolean bestFirst, boolean symmetric,
             int... due) {
@@ -372,6 +380,9 @@ final class SearchEdges extends Bench {
         AssignmentWorkbench z = hardest();
         search(z, true, false, 20, 98, 520, 360, 1, 361, 6);
         counts(z, 1, 6, 30, 120, 360, 2, 1);
+        search(filled(4, 12), true, false, 116, 10, 17, 10, 1, 11, 4);
+        search(filled(4, 36), true, false, 154, 7, 14, 8, 1, 9, 4);
+        search(filled(5, 46), true, false, 368, 32, 30, 20, 1, 21, 5);
         // The last facility is taken first, and goes to the first location.
         AssignmentWorkbench w = sized(6);
         for (int k = 0; k < 6; k++) {
